@@ -213,6 +213,14 @@ public final class PromisesTest {
         equal.condition(1, 1, 2);
         due("4 variables may have one value", equal.share(), 2);
 
+        for (int node = 0; node < 6; node++) {
+            LineageWorlds whole = new LineageWorlds();
+            whole.fact(edge(node, node, 0), 3);
+            whole.condition(0, 0, 1);
+            whole.condition(0, 1, 2);
+            due("4 all three variables at node " + node, whole.share(), 3);
+        }
+
         LineageWorlds triangle = new LineageWorlds();
         triangle.fact(edge(5, 4, 0), 1);
         triangle.fact(edge(4, 0, 0), 2);
