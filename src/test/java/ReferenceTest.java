@@ -146,6 +146,16 @@ public final class ReferenceTest {
         return (int) ((seed >>> 33) % bound);
     }
 
+    /** Now and then a value from the whole range, as no call may throw for any (LANGUAGE.md, rule 7). */
+    private static boolean goesFar() {
+        return next(40) == 0;
+    }
+
+    private static int farValue() {
+        next(2);
+        return (int) (seed >>> 32);
+    }
+
     private static void due(String what, long got, long want) {
         if (got != want) {
             wrong++;
@@ -153,16 +163,23 @@ public final class ReferenceTest {
         }
     }
 
+    private static int someFact() {
+        return goesFar() ? farValue() : next(12) - 1;
+    }
+
     private static int someNumber() {
+        if (goesFar()) return farValue();
         return next(12) == 0 ? next(9) - 2 : 1 + next(4);
     }
 
     private static int someTerm(int nodes) {
+        if (goesFar()) return farValue();
         if (next(25) == 0) return next(20) - 3;
         return next(3) > 0 ? next(3) : 8 + next(nodes);
     }
 
     private static int someEdge(int nodes, int labels) {
+        if (goesFar()) return farValue();
         if (next(15) == 0) return next(256) - 64;
         return next(nodes) | next(nodes) << 3 | next(labels) << 6 | next(2) << 7;
     }
@@ -174,11 +191,11 @@ public final class ReferenceTest {
             int n = someNumber();
             due(at + "fact(" + edge + ", " + n + ")", w.fact(edge, n), m.fact(edge, n));
         } else if (kind < 10) {
-            int fact = next(12) - 1;
+            int fact = someFact();
             int n = someNumber();
             due(at + "likely(" + fact + ", " + n + ")", w.likely(fact, n), m.likely(fact, n));
         } else if (kind < 16) {
-            int label = next(labels) + 2 * (next(5) - 2);
+            int label = goesFar() ? farValue() : next(labels) + 2 * (next(5) - 2);
             int x = someTerm(nodes);
             int y = someTerm(nodes);
             due(at + "condition(" + label + ", " + x + ", " + y + ")", w.condition(label, x, y), m.condition(label, x, y));
@@ -200,6 +217,9 @@ public final class ReferenceTest {
             due(at + "shareWith(" + i + ")", w.shareWith(i), m.has(i) ? r.shareWith[i] : LineageWorlds.NO_FACT);
             due(at + "matters(" + i + ")", w.matters(i) ? 1 : 0, m.has(i) && r.matters[i] ? 1 : 0);
         }
+        int far = farValue();
+        due(at + "shareWith(" + far + ")", w.shareWith(far), m.has(far) ? r.shareWith[far] : LineageWorlds.NO_FACT);
+        due(at + "matters(" + far + ")", w.matters(far) ? 1 : 0, m.has(far) && r.matters[far] ? 1 : 0);
     }
 
     public static void main(String[] args) {
